@@ -59,7 +59,7 @@ public final class CobblerCodes {
         if (shop.tree.knownLasts() == 0) {
             throw new IllegalStateException("no last is known");
         }
-        return shop.wearOnce();
+        return shop.tree.wearDown();
     }
 
     // ---- what there is
@@ -112,7 +112,7 @@ public final class CobblerCodes {
 
     public int would(int from, int step, int many) throws IndexOutOfBoundsException, IllegalArgumentException {
         requireRow(from, step, many);
-        trial.becomeLike(shop);
+        trial.startLike(shop);
         return trial.takeRow(from, step, many);
     }
 
@@ -121,7 +121,7 @@ public final class CobblerCodes {
         int best = NONE;
         int fewest = 0;
         for (int limit : ADVISED_LIMITS) {
-            trial.becomeLike(shop);
+            trial.startLike(shop);
             trial.limit = limit;
             int bits = trial.takeRow(from, step, many);
             if (best == NONE || bits < fewest) {
@@ -186,27 +186,22 @@ public final class CobblerCodes {
         }
     }
 
-    /** The tree, the limit, and what is counted. */
+    /** The tree, the limit, and what uses took. */
     private static final class Shop {
         private final Tree tree;
         private int limit;
         private int uses;
         private int bits;
-        private int exchanges;
-        private int wears;
 
         private Shop() {
             tree = new Tree();
             limit = FIRST_LIMIT;
         }
 
-        private void becomeLike(Shop other) {
+        /** What is counted is left aside, as no later bits hang on it. */
+        private void startLike(Shop other) {
             tree.becomeLike(other.tree);
             limit = other.limit;
-            uses = other.uses;
-            bits = other.bits;
-            exchanges = other.exchanges;
-            wears = other.wears;
         }
 
         private int bitsFor(int last) {
@@ -219,11 +214,11 @@ public final class CobblerCodes {
             if (!tree.knows(last)) {
                 tree.learn(last);
             }
-            exchanges += tree.makeHeavier(last);
+            tree.makeHeavier(last);
             uses++;
             bits += taken;
             if (tree.weightOfRoot() >= limit) {
-                wearOnce();
+                tree.wearDown();
             }
             return taken;
         }
@@ -236,11 +231,6 @@ public final class CobblerCodes {
             return taken;
         }
 
-        private int wearOnce() {
-            wears++;
-            return tree.wearDown();
-        }
-
         private int factOfShop(int what) {
             switch (what) {
                 case 0: return tree.knownLasts();
@@ -248,8 +238,8 @@ public final class CobblerCodes {
                 case 2: return tree.weightOfRoot();
                 case 3: return uses;
                 case 4: return bits;
-                case 5: return exchanges;
-                case 6: return wears;
+                case 5: return tree.exchanges;
+                case 6: return tree.wears;
                 default: return limit;
             }
         }
@@ -267,6 +257,8 @@ public final class CobblerCodes {
         private final int[] placeOf;
         private final Heap heap;
         private int size;
+        private int exchanges;
+        private int wears;
 
         private Tree() {
             weight = new int[NODES];
@@ -407,19 +399,17 @@ public final class CobblerCodes {
             putNode(parts + 1, 0, last, NONE);
         }
 
-        private int makeHeavier(int last) {
-            int changed = 0;
+        private void makeHeavier(int last) {
             int place = at(placeOf, last);
             for (int steps = 0; place != NONE && steps < NODES; steps++) {
                 int ahead = firstAsHeavyAs(place);
                 if (ahead != place) {
                     exchange(place, ahead);
-                    changed++;
+                    exchanges++;
                 }
                 put(weight, ahead, at(weight, ahead) + 1);
                 place = at(above, ahead);
             }
-            return changed;
         }
 
         private int firstAsHeavyAs(int place) {
@@ -445,6 +435,19 @@ public final class CobblerCodes {
         }
 
         private int wearDown() {
+            int forgotten = fillHeap();
+            size -= 2 * forgotten;
+            for (int free = size - 1; free > 0; free -= 2) {
+                int lightest = takeLightest(free);
+                int next = takeLightest(free - 1);
+                heap.add(lightest + next, NONE, free - 1);
+            }
+            takeLightest(0);
+            wears++;
+            return forgotten;
+        }
+
+        private int fillHeap() {
             int forgotten = 0;
             heap.clear();
             heap.add(1, SOLE, NONE);
@@ -459,18 +462,7 @@ public final class CobblerCodes {
                     }
                 }
             }
-            size -= 2 * forgotten;
-            buildAnew();
             return forgotten;
-        }
-
-        private void buildAnew() {
-            for (int free = size - 1; free > 0; free -= 2) {
-                int lightest = takeLightest(free);
-                int next = takeLightest(free - 1);
-                heap.add(lightest + next, NONE, free - 1);
-            }
-            takeLightest(0);
         }
 
         private int takeLightest(int place) {

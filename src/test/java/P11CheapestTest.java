@@ -5,7 +5,7 @@ public final class P11CheapestTest {
         Check.due("cheapest() of 31 alone", Check.used(31).cheapest(), 31);
         Check.due("cheapest() of 0 alone", Check.used(0).cheapest(), 0);
         Check.due("cheapest() behind 3, 7, 7, 7", Check.used(3, 7, 7, 7).cheapest(), 7);
-        // The row is 4:/1 2:/3 2:/5 1:1 1:30 1:S 1:2 or the like: all three at length 2.
+        // All three have codes of the length 2 here, as the sole has.
         CobblerCodes even = Check.used(30, 1, 2);
         Check.due("told(30, 1)", even.told(30, 1), 2);
         Check.due("told(1, 1)", even.told(1, 1), 2);
