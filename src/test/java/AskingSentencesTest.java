@@ -38,12 +38,8 @@ public final class AskingSentencesTest {
         Check.end();
     }
 
-    private static String codeOf(CobblerCodes x, int last) {
-        return Shops.way(x, Shops.placeOf(x, last));
-    }
-
     private static void reads(String when, CobblerCodes x, String bits, int want) {
-        Check.due("read() of " + bits + " " + when, x.read(Shops.number(bits), bits.length()), want);
+        Check.due("read() of " + bits + " " + when, x.read(Row.number(bits), bits.length()), want);
     }
 
     // "the bits, as a number (the first one is the highest one)"
@@ -59,9 +55,10 @@ public final class AskingSentencesTest {
     // "Returns the last whose code they begin with"
     private static void p10TheLastWhoseCodeTheyBeginWith() {
         for (CobblerCodes x : Shops.each()) {
+            Row row = new Row(x);
             for (int last = 0; last < 32; last++) {
-                if (Shops.placeOf(x, last) >= 0) {
-                    reads("for " + last, x, codeOf(x, last), last);
+                if (row.knows(last)) {
+                    reads("for " + last, x, row.codeOf(last), last);
                 }
             }
         }
@@ -70,9 +67,10 @@ public final class AskingSentencesTest {
     // "if they begin with the sole's code, 100 and the plain number in the 5 bits behind it"
     private static void p10The5BitsBehindTheSolesCode() {
         for (CobblerCodes x : Shops.each()) {
+            String code = new Row(x).codeOf(32);
             for (int plain = 0; plain < 32; plain++) {
                 String bits = Integer.toBinaryString(32 + plain).substring(1);
-                reads("for the sole and " + plain, x, codeOf(x, 32) + bits, 100 + plain);
+                reads("for the sole and " + plain, x, code + bits, 100 + plain);
             }
         }
     }
@@ -80,18 +78,19 @@ public final class AskingSentencesTest {
     // "(whether this last is known or not)"
     private static void p10WhetherThisLastIsKnownOrNot() {
         CobblerCodes x = Check.used(17);
-        reads("for 17, that is known", x, codeOf(x, 32) + "10001", 117);
-        reads("for 16, that is not", x, codeOf(x, 32) + "10000", 116);
+        reads("for 17, that is known", x, new Row(x).codeOf(32) + "10001", 117);
+        reads("for 16, that is not", x, new Row(x).codeOf(32) + "10000", 116);
         CobblerCodes full = Shops.full();
-        reads("for 31, with all known", full, codeOf(full, 32) + "11111", 131);
+        reads("for 31, with all known", full, new Row(full).codeOf(32) + "11111", 131);
     }
 
     // "-1, if there are too few bits (amid a code"
     private static void p10TooFewAmidACode() {
         for (CobblerCodes x : Shops.each()) {
+            Row row = new Row(x);
             for (int last = 0; last <= 32; last++) {
-                if (Shops.placeOf(x, last) >= 0) {
-                    String code = codeOf(x, last);
+                if (row.knows(last)) {
+                    String code = row.codeOf(last);
                     for (int many = 1; many < code.length(); many++) {
                         reads("amid the code of " + last, x, code.substring(0, many), -1);
                     }
@@ -103,8 +102,9 @@ public final class AskingSentencesTest {
     // "or amid those 5)"
     private static void p10TooFewAmidThose5() {
         for (CobblerCodes x : Shops.each()) {
+            String code = new Row(x).codeOf(32);
             for (int few = 0; few < 5; few++) {
-                String bits = codeOf(x, 32) + "11111".substring(0, few);
+                String bits = code + "11111".substring(0, few);
                 if (!bits.isEmpty()) {
                     reads("with " + few + " of the 5", x, bits, -1);
                 }
@@ -114,10 +114,12 @@ public final class AskingSentencesTest {
 
     // "what comes behind does not matter."
     private static void p10WhatComesBehindDoesNotMatter() {
-        for (CobblerCodes x : Shops.each()) {
+        for (Check.Maker maker : Shops.MAKERS) {
+            Row row = new Row(maker.make());
             for (int last = 0; last <= 32; last++) {
-                if (Shops.placeOf(x, last) >= 0) {
-                    String bits = codeOf(x, last) + (last == 32 ? "01101" : "");
+                if (row.knows(last)) {
+                    CobblerCodes x = maker.make();
+                    String bits = row.codeOf(last) + (last == 32 ? "01101" : "");
                     for (int more = 0; bits.length() + more <= 30; more++) {
                         reads("and zeros", x, bits + "0".repeat(more), last == 32 ? 113 : last);
                         reads("and ones", x, bits + "1".repeat(more), last == 32 ? 113 : last);
@@ -141,8 +143,8 @@ public final class AskingSentencesTest {
     }
 
     private static void refusesRead(int bits, int many) {
-        for (CobblerCodes x : new CobblerCodes[] {Shops.untouched(), Shops.full(), Shops.chain()}) {
-            Check.dueThrow(x, "read(" + bits + ", " + many + ")", Check.ARGUMENT, () -> x.read(bits, many));
+        for (Check.Maker maker : new Check.Maker[] {Shops::untouched, Shops::full, Shops::chain}) {
+            Check.dueThrow(maker, "read(" + bits + ", " + many + ")", Check.ARGUMENT, x -> x.read(bits, many));
         }
     }
 
@@ -233,14 +235,19 @@ public final class AskingSentencesTest {
 
     // "(nothing is changed)."
     private static void p12NothingIsChanged() {
-        for (CobblerCodes x : Shops.each()) {
-            x.setLimit(4);
-            String before = Check.all(x);
-            int would = x.would(0, 1, 40);
-            x.would(5, 5, 40);
-            Check.due("all behind would()", Check.all(x), before);
-            Check.due("would() again", x.would(0, 1, 40), would);
+        for (Check.Maker maker : Shops.MAKERS) {
+            Check.dueUnchanged(() -> atLimit4(maker), "would()", x -> {
+                int would = x.would(0, 1, 40);
+                x.would(5, 5, 40);
+                Check.due("would() again", x.would(0, 1, 40), would);
+            });
         }
+    }
+
+    private static CobblerCodes atLimit4(Check.Maker maker) {
+        CobblerCodes x = maker.make();
+        x.setLimit(4);
+        return x;
     }
 
     private static int[] bitsAtLimits(int state, int from, int step, int many) {
@@ -308,22 +315,21 @@ public final class AskingSentencesTest {
 
     // "(nothing is changed)."
     private static void p13NothingIsChanged() {
-        for (CobblerCodes x : Shops.each()) {
-            String before = Check.all(x);
-            int would = x.would(1, 1, 40);
-            int advised = x.advise(0, 1, 40);
-            x.advise(7, 0, 40);
-            Check.due("all behind advise()", Check.all(x), before);
-            Check.due("would() behind advise()", x.would(1, 1, 40), would);
-            Check.due("advise() again", x.advise(0, 1, 40), advised);
+        for (Check.Maker maker : Shops.MAKERS) {
+            Check.dueUnchanged(maker, "advise()", x -> {
+                int would = x.would(1, 1, 40);
+                int advised = x.advise(0, 1, 40);
+                x.advise(7, 0, 40);
+                Check.due("would() behind advise()", x.would(1, 1, 40), would);
+                Check.due("advise() again", x.advise(0, 1, 40), advised);
+            });
         }
     }
 
     private static void refusesRow(int from, int step, int many, Class<?> type) {
-        CobblerCodes x = Check.used(8, 9, 9);
         String row = "(" + from + ", " + step + ", " + many + ")";
-        Check.dueThrow(x, "would" + row, type, () -> x.would(from, step, many));
-        Check.dueThrow(x, "advise" + row, type, () -> x.advise(from, step, many));
+        Check.dueThrow(() -> Check.used(8, 9, 9), "would" + row, type, x -> x.would(from, step, many));
+        Check.dueThrow(() -> Check.used(8, 9, 9), "advise" + row, type, x -> x.advise(from, step, many));
     }
 
     private static void takesRow(int from, int step, int many) {
@@ -400,9 +406,9 @@ public final class AskingSentencesTest {
         x.setLimit(4);
         x.would(0, 1, 40);
         x.advise(0, 1, 40);
-        Check.outcome(() -> x.use(-1));
-        Check.outcome(() -> x.useAll(0, 0, 0));
-        Check.outcome(() -> x.wear());
+        Check.outcome(x, y -> y.use(-1));
+        Check.outcome(x, y -> y.useAll(0, 0, 0));
+        Check.outcome(x, CobblerCodes::wear);
         Check.due("mean() behind what is no use", x.mean(), 0.0);
         Check.due("mean() with all forgotten, but uses", Shops.emptied().mean(), 12 / 3.0);
     }

@@ -89,10 +89,10 @@ public final class P02UseTest {
     }
 
     private static void refusesWrongLasts() {
-        CobblerCodes x = Check.used(1, 2, 2, 3);
         for (int last : new int[] {-1, 32, 33, 100, Integer.MIN_VALUE, Integer.MAX_VALUE}) {
-            Check.dueThrow(x, "use(" + last + ")", Check.INDEX, () -> x.use(last));
+            Check.dueThrow(() -> Check.used(1, 2, 2, 3), "use(" + last + ")", Check.INDEX, x -> x.use(last));
         }
+        CobblerCodes x = Check.used(1, 2, 2, 3);
         Check.due("use(0)", x.use(0) > 5, true);
         Check.due("use(31)", x.use(31) > 5, true);
     }

@@ -42,8 +42,7 @@ public final class P03UseAllTest {
     }
 
     private static void refuses(int from, int step, int many, Class<?> type) {
-        CobblerCodes x = Check.used(8, 9, 9);
         String name = "useAll(" + from + ", " + step + ", " + many + ")";
-        Check.dueThrow(x, name, type, () -> x.useAll(from, step, many));
+        Check.dueThrow(() -> Check.used(8, 9, 9), name, type, x -> x.useAll(from, step, many));
     }
 }

@@ -14,10 +14,16 @@ public final class P04SetLimitTest {
         Check.due("count(6) at limit 7", x.count(6), 1);
         Check.due("setLimit(7) again", x.setLimit(7), 7);
         for (int limit : new int[] {3, 401, 0, -1, -64, Integer.MIN_VALUE, Integer.MAX_VALUE}) {
-            Check.dueThrow(x, "setLimit(" + limit + ")", Check.ARGUMENT, () -> x.setLimit(limit));
+            Check.dueThrow(P04SetLimitTest::withLimit7, "setLimit(" + limit + ")", Check.ARGUMENT, y -> y.setLimit(limit));
         }
         reachesTheGreatestLimit();
         Check.end();
+    }
+
+    private static CobblerCodes withLimit7() {
+        CobblerCodes x = Check.used(1, 1, 1, 1, 1);
+        x.setLimit(7);
+        return x;
     }
 
     private static void reachesTheGreatestLimit() {

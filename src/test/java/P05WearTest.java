@@ -1,10 +1,9 @@
 /** Promise 5: letting weights wear. */
 public final class P05WearTest {
     public static void main(String[] args) {
-        CobblerCodes none = new CobblerCodes();
-        Check.dueThrow(none, "wear() of a new object", Check.STATE, () -> none.wear());
+        Check.dueThrow(() -> new CobblerCodes(), "wear() of a new object", Check.STATE, none -> none.wear());
 
-        CobblerCodes x = Check.used(2, 5, 5, 6, 6, 6, 7, 7, 7, 7);
+        CobblerCodes x = usedToWear();
         Check.due("wear()", x.wear(), 1);
         // Heap: S1 5:1 6:1 7:2, so S and 5 go last, then 6 with 7 (ahead of their fork), then the two forks.
         Check.due("the row behind wear()", Check.row(x), "5:/1 3:/3 2:/5 2:7 1:6 1:5 1:S");
@@ -21,7 +20,7 @@ public final class P05WearTest {
         Check.due("node(0, 2) without a last", x.node(0, 2), -1);
         Check.due("cheapest() without a last", x.cheapest(), -1);
         Check.due("count(6) behind three", x.count(6), 3);
-        Check.dueThrow(x, "wear() with all forgotten", Check.STATE, () -> x.wear());
+        Check.dueThrow(P05WearTest::wornOut, "wear() with all forgotten", Check.STATE, y -> y.wear());
         Check.due("use(2) behind it all", x.use(2), 5);
 
         CobblerCodes all = new CobblerCodes();
@@ -30,6 +29,18 @@ public final class P05WearTest {
         Check.due("count(1) behind it", all.count(1), 1);
         wearsAheadOfTheLimit();
         Check.end();
+    }
+
+    private static CobblerCodes usedToWear() {
+        return Check.used(2, 5, 5, 6, 6, 6, 7, 7, 7, 7);
+    }
+
+    private static CobblerCodes wornOut() {
+        CobblerCodes x = usedToWear();
+        x.wear();
+        x.wear();
+        x.wear();
+        return x;
     }
 
     private static void wearsAheadOfTheLimit() {

@@ -1,8 +1,7 @@
 /** Promise 6: what is told of a last. */
 public final class P06ToldTest {
     public static void main(String[] args) {
-        CobblerCodes x = Check.used(9, 9, 4, 4);
-        x.wear();
+        CobblerCodes x = worn();
         // The row is 3:/1 2:/3 1:9 1:4 1:S, so 9 is 1, 4 is 00, the sole 01.
         told(x, 9, 1, 1, 1, 0, 2, 1);
         told(x, 4, 1, 2, 0, 2, 3, 2);
@@ -17,8 +16,14 @@ public final class P06ToldTest {
 
         told(Check.used(0), 0, 1, 1, 1, 0, 2, 1);
         told(Check.used(31), 31, 1, 1, 1, 0, 2, 1);
-        wrongOnes(x);
+        wrongOnes();
         Check.end();
+    }
+
+    private static CobblerCodes worn() {
+        CobblerCodes x = Check.used(9, 9, 4, 4);
+        x.wear();
+        return x;
     }
 
     private static void told(CobblerCodes x, int last, int... wants) {
@@ -27,11 +32,11 @@ public final class P06ToldTest {
         }
     }
 
-    private static void wrongOnes(CobblerCodes x) {
+    private static void wrongOnes() {
         int[][] calls = {{-1, 0}, {32, 0}, {0, -1}, {0, 6}, {31, 6}, {32, 6}, {-1, -1}, {9, 7},
             {Integer.MIN_VALUE, 0}, {0, Integer.MAX_VALUE}, {Integer.MAX_VALUE, Integer.MIN_VALUE}};
         for (int[] c : calls) {
-            Check.dueThrow(x, "told(" + c[0] + ", " + c[1] + ")", Check.INDEX, () -> x.told(c[0], c[1]));
+            Check.dueThrow(P06ToldTest::worn, "told(" + c[0] + ", " + c[1] + ")", Check.INDEX, x -> x.told(c[0], c[1]));
         }
     }
 }

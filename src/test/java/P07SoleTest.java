@@ -5,13 +5,17 @@ public final class P07SoleTest {
         sole("behind one use", Check.used(31), 1, 1, 0, 1, 1);
         sole("behind 7, 3, 7, 7", Check.used(7, 3, 7, 7), 1, 2, 2, 3, 3);
         sole("behind 1, 2, 3", Check.used(1, 2, 3), 1, 2, 2, 3, 5);
-        CobblerCodes x = Check.used(9, 9, 4, 4);
-        x.wear();
-        sole("worn", x, 1, 2, 1, 3, 4);
+        sole("worn", worn(), 1, 2, 1, 3, 4);
         for (int what : new int[] {-1, 5, 6, Integer.MIN_VALUE, Integer.MAX_VALUE}) {
-            Check.dueThrow(x, "sole(" + what + ")", Check.INDEX, () -> x.sole(what));
+            Check.dueThrow(P07SoleTest::worn, "sole(" + what + ")", Check.INDEX, x -> x.sole(what));
         }
         Check.end();
+    }
+
+    private static CobblerCodes worn() {
+        CobblerCodes x = Check.used(9, 9, 4, 4);
+        x.wear();
+        return x;
     }
 
     private static void sole(String when, CobblerCodes x, int... wants) {

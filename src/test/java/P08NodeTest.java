@@ -1,28 +1,42 @@
 /** Promise 8: what is told of the node at a place. */
 public final class P08NodeTest {
     public static void main(String[] args) {
-        CobblerCodes none = new CobblerCodes();
-        node(none, 0, 1, 32, -1, -1);
-        refuses(none, 1, 0);
-        CobblerCodes x = Check.used(7, 3, 7, 7);
+        node(new CobblerCodes(), 0, 1, 32, -1, -1);
+        refuses(CobblerCodes::new, 1, 0);
+        CobblerCodes x = grown();
         node(x, 0, 5, -1, -1, 1);
         node(x, 1, 3, 7, 0, -1);
         node(x, 2, 2, -1, 0, 3);
         node(x, 3, 1, 32, 2, -1);
         node(x, 4, 1, 3, 2, -1);
-        refuses(x, 5, 0);
-        refuses(x, -1, 0);
-        refuses(x, 0, -1);
-        refuses(x, 0, 4);
-        refuses(x, 5, 4);
-        refuses(x, Integer.MIN_VALUE, 0);
-        refuses(x, Integer.MAX_VALUE, Integer.MAX_VALUE);
-        x.wear();
-        node(x, 2, 1, 32, 0, -1);
-        refuses(x, 3, 0);
-        refuses(x, 4, 3);
+        refuses(P08NodeTest::grown, 5, 0);
+        refuses(P08NodeTest::grown, -1, 0);
+        refuses(P08NodeTest::grown, 0, -1);
+        refuses(P08NodeTest::grown, 0, 4);
+        refuses(P08NodeTest::grown, 5, 4);
+        refuses(P08NodeTest::grown, Integer.MIN_VALUE, 0);
+        refuses(P08NodeTest::grown, Integer.MAX_VALUE, Integer.MAX_VALUE);
+        node(worn(), 2, 1, 32, 0, -1);
+        refuses(P08NodeTest::worn, 3, 0);
+        refuses(P08NodeTest::worn, 4, 3);
         fullRow();
         Check.end();
+    }
+
+    private static CobblerCodes grown() {
+        return Check.used(7, 3, 7, 7);
+    }
+
+    private static CobblerCodes worn() {
+        CobblerCodes x = grown();
+        x.wear();
+        return x;
+    }
+
+    private static CobblerCodes full() {
+        CobblerCodes x = new CobblerCodes();
+        x.useAll(0, 1, 32);
+        return x;
     }
 
     private static void node(CobblerCodes x, int place, int... wants) {
@@ -31,16 +45,15 @@ public final class P08NodeTest {
         }
     }
 
-    private static void refuses(CobblerCodes x, int place, int what) {
-        Check.dueThrow(x, "node(" + place + ", " + what + ")", Check.INDEX, () -> x.node(place, what));
+    private static void refuses(Check.Maker maker, int place, int what) {
+        Check.dueThrow(maker, "node(" + place + ", " + what + ")", Check.INDEX, x -> x.node(place, what));
     }
 
     private static void fullRow() {
-        CobblerCodes x = new CobblerCodes();
-        x.useAll(0, 1, 32);
+        CobblerCodes x = full();
         Check.due("count(1) with all known", x.count(1), 65);
         Check.due("node(64, 3)", x.node(64, 3), -1);
-        refuses(x, 65, 0);
+        refuses(P08NodeTest::full, 65, 0);
         for (int place = 0; place < 65; place++) {
             int first = x.node(place, 3);
             if (first >= 0) {

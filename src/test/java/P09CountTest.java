@@ -18,7 +18,7 @@ public final class P09CountTest {
         x.useAll(4, 0, 3);
         counts(x, "behind a row", 1, 3, 4, 8, 22, 3, 2, 6);
         for (int what : new int[] {-1, 8, 9, Integer.MIN_VALUE, Integer.MAX_VALUE}) {
-            Check.dueThrow(x, "count(" + what + ")", Check.INDEX, () -> x.count(what));
+            Check.dueThrow(() -> Check.used(7, 3, 7, 7), "count(" + what + ")", Check.INDEX, y -> y.count(what));
         }
         Check.end();
     }

@@ -10,8 +10,7 @@ public final class P10ReadTest {
         read(none, (1 << 30) - 1, 30, 131);
         read(none, 1 << 29, 30, 116);
 
-        CobblerCodes x = Check.used(9, 9, 4, 4);
-        x.wear();
+        CobblerCodes x = worn();
         // 9 is 1, 4 is 00, the sole 01.
         read(x, 1, 1, 9);
         read(x, 0, 1, -1);
@@ -26,17 +25,21 @@ public final class P10ReadTest {
         read(x, 0, 30, 4);
         read(x, (1 << 30) - 1, 30, 9);
         read(x, (1 << 29) - 1, 30, 131);
-        String before = Check.all(x);
-        x.read(0, 30);
-        Check.due("what there is behind read()", Check.all(x), before);
+        Check.dueUnchanged(P10ReadTest::worn, "read()", y -> y.read(0, 30));
 
         int[][] wrong = {{0, 0}, {0, 31}, {0, -1}, {0, 32}, {0, 64}, {-1, 5}, {2, 1}, {32, 5}, {1 << 30, 30}, {-1, 0},
             {Integer.MAX_VALUE, 30}, {Integer.MIN_VALUE, 30}, {Integer.MAX_VALUE, 31}, {Integer.MIN_VALUE, 31},
             {0, Integer.MAX_VALUE}, {0, Integer.MIN_VALUE}};
         for (int[] c : wrong) {
-            Check.dueThrow(x, "read(" + c[0] + ", " + c[1] + ")", Check.ARGUMENT, () -> x.read(c[0], c[1]));
+            Check.dueThrow(P10ReadTest::worn, "read(" + c[0] + ", " + c[1] + ")", Check.ARGUMENT, y -> y.read(c[0], c[1]));
         }
         Check.end();
+    }
+
+    private static CobblerCodes worn() {
+        CobblerCodes x = Check.used(9, 9, 4, 4);
+        x.wear();
+        return x;
     }
 
     private static void read(CobblerCodes x, int bits, int many, int want) {

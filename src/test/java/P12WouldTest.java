@@ -22,19 +22,22 @@ public final class P12WouldTest {
     }
 
     private static void asUseAllTells(int limit, int from, int step, int many) {
-        CobblerCodes x = Check.used(8, 9, 9, 30, 8, 12, 12, 12, 12);
-        x.setLimit(limit);
-        String before = Check.all(x);
         String name = "would(" + from + ", " + step + ", " + many + ") at limit " + limit;
+        CobblerCodes x = withLimit(limit);
         int would = x.would(from, step, many);
         Check.due(name + " again", x.would(from, step, many), would);
-        Check.due("what there is behind " + name, Check.all(x), before);
         Check.due(name, would, x.useAll(from, step, many));
+        Check.dueUnchanged(() -> withLimit(limit), name, y -> y.would(from, step, many));
+    }
+
+    private static CobblerCodes withLimit(int limit) {
+        CobblerCodes x = Check.used(8, 9, 9, 30, 8, 12, 12, 12, 12);
+        x.setLimit(limit);
+        return x;
     }
 
     private static void refuses(int from, int step, int many, Class<?> type) {
-        CobblerCodes x = Check.used(8, 9, 9);
         String name = "would(" + from + ", " + step + ", " + many + ")";
-        Check.dueThrow(x, name, type, () -> x.would(from, step, many));
+        Check.dueThrow(() -> Check.used(8, 9, 9), name, type, x -> x.would(from, step, many));
     }
 }

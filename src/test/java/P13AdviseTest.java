@@ -36,7 +36,7 @@ public final class P13AdviseTest {
         return x;
     }
 
-    private static void asTriedOut(int past, int from, int step, int many) {
+    private static int bestByTrying(int past, int from, int step, int many) {
         int best = -1;
         int fewest = Integer.MAX_VALUE;
         for (int limit : LIMITS) {
@@ -48,17 +48,18 @@ public final class P13AdviseTest {
                 best = limit;
             }
         }
-        CobblerCodes x = withPast(past);
-        String before = Check.all(x);
+        return best;
+    }
+
+    private static void asTriedOut(int past, int from, int step, int many) {
+        int best = bestByTrying(past, from, step, many);
         String name = "advise(" + from + ", " + step + ", " + many + ") with past " + past;
-        Check.due(name, x.advise(from, step, many), best);
-        Check.due("what there is behind " + name, Check.all(x), before);
+        Check.dueUnchanged(() -> withPast(past), name, x -> Check.due(name, x.advise(from, step, many), best));
         answers.add(best);
     }
 
     private static void refuses(int from, int step, int many, Class<?> type) {
-        CobblerCodes x = Check.used(8, 9, 9);
         String name = "advise(" + from + ", " + step + ", " + many + ")";
-        Check.dueThrow(x, name, type, () -> x.advise(from, step, many));
+        Check.dueThrow(() -> Check.used(8, 9, 9), name, type, x -> x.advise(from, step, many));
     }
 }

@@ -12,10 +12,9 @@ public final class P16DigestTest {
         }
         Check.due("digest() of a new object", none.digest(), d);
 
-        CobblerCodes x = Check.used(7, 3, 7, 7);
-        sameAsToldOneByOne("behind 7, 3, 7, 7", x);
-        x.useAll(0, 1, 40);
-        sameAsToldOneByOne("with all known", x);
+        sameAsToldOneByOne("behind 7, 3, 7, 7", Check.used(7, 3, 7, 7));
+        sameAsToldOneByOne("with all known", withAllKnown());
+        CobblerCodes x = withAllKnown();
         x.wear();
         sameAsToldOneByOne("worn", x);
         long before = x.digest();
@@ -23,6 +22,12 @@ public final class P16DigestTest {
         x.setLimit(65);
         Check.due("digest() feels the limit", x.digest() != before, true);
         Check.end();
+    }
+
+    private static CobblerCodes withAllKnown() {
+        CobblerCodes x = Check.used(7, 3, 7, 7);
+        x.useAll(0, 1, 40);
+        return x;
     }
 
     private static void sameAsToldOneByOne(String when, CobblerCodes x) {

@@ -241,8 +241,11 @@ final class PlainModel {
     }
 
     int count(int what) {
-        int[] counts = {row.size() / 2, row.size(), (int) row.get(0).weight, uses, bits, exchanges, wears, limit};
-        return counts[what];
+        return counts()[what];
+    }
+
+    int[] counts() {
+        return new int[] {row.size() / 2, row.size(), (int) row.get(0).weight, uses, bits, exchanges, wears, limit};
     }
 
     int read(int number, int many) {

@@ -1,9 +1,11 @@
 import java.math.BigInteger;
 
-/** Shops in the states that the sentences' tests ask about, and what can be told of a tree from node() alone. */
+/** Shops in the states that the sentences' tests ask about, made by a few calls each, and their checksum. */
 final class Shops {
     static final int[] FAR = {Integer.MIN_VALUE, Integer.MIN_VALUE + 1, -65536, -401, -256, -64, -33, -32, 64, 96, 256, 1024,
         65536, 1 << 30, Integer.MAX_VALUE - 1, Integer.MAX_VALUE};
+    static final Check.Maker[] MAKERS = {Shops::untouched, Shops::emptied, Shops::withOne,
+        () -> Check.used(9, 9, 4, 4, 4, 30), Shops::full, Shops::fullAndUneven, Shops::fullAndWorn, Shops::chain};
     private static final int[] CHAIN = {1, 2, 3, 5, 8, 13, 21, 34, 55, 89, 144};
 
     private Shops() {
@@ -57,39 +59,19 @@ final class Shops {
         CobblerCodes x = new CobblerCodes();
         x.setLimit(400);
         for (int last = 0; last < CHAIN.length; last++) {
-            for (int k = 0; k < CHAIN[last]; k++) {
-                x.use(last);
+            for (int left = CHAIN[last]; left > 0; left -= 40) {
+                x.useAll(last, 0, Math.min(left, 40));
             }
         }
         return x;
     }
 
     static CobblerCodes[] each() {
-        return new CobblerCodes[] {untouched(), emptied(), withOne(), Check.used(9, 9, 4, 4, 4, 30), full(), fullAndUneven(),
-            fullAndWorn(), chain()};
-    }
-
-    /** The place of the leaf of this last (32 for the sole), -1 without one. */
-    static int placeOf(CobblerCodes x, int last) {
-        for (int place = 0; place < x.count(1); place++) {
-            if (x.node(place, 1) == last) {
-                return place;
-            }
+        CobblerCodes[] each = new CobblerCodes[MAKERS.length];
+        for (int k = 0; k < each.length; k++) {
+            each[k] = MAKERS[k].make();
         }
-        return -1;
-    }
-
-    /** The way from the root to this place, as a text of 0 and 1, gone from the leaf upwards. */
-    static String way(CobblerCodes x, int place) {
-        StringBuilder way = new StringBuilder();
-        for (int at = place; x.node(at, 2) >= 0; at = x.node(at, 2)) {
-            way.insert(0, x.node(x.node(at, 2), 3) == at ? '0' : '1');
-        }
-        return way.toString();
-    }
-
-    static int number(String bits) {
-        return bits.isEmpty() ? 0 : Integer.parseInt(bits, 2);
+        return each;
     }
 
     /** The checksum without any bound, by what the other calls tell; its low 64 bits are the digest. */
@@ -98,7 +80,8 @@ final class Shops {
         for (int what = 0; what < 8; what++) {
             d = further(d, x.count(what));
         }
-        for (int place = 0; place < x.count(1); place++) {
+        int places = x.count(1);
+        for (int place = 0; place < places; place++) {
             for (int what = 0; what < 4; what++) {
                 d = further(d, x.node(place, what));
             }

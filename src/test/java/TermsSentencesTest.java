@@ -58,11 +58,10 @@ public final class TermsSentencesTest {
 
     // "There are 32, numbered from 0; the sole is 32."
     private static void lastsAreNumberedFromNought() {
-        CobblerCodes x = Shops.full();
         int[] seen = new int[33];
-        for (int place = 0; place < 65; place++) {
-            if (x.node(place, 1) >= 0) {
-                seen[x.node(place, 1)]++;
+        for (int last : new Row(Shops.full()).last) {
+            if (last >= 0) {
+                seen[last]++;
             }
         }
         int[] once = new int[33];
@@ -73,10 +72,11 @@ public final class TermsSentencesTest {
     // "A last is known, if it has a leaf in the tree"
     private static void aLastIsKnownIfItHasALeaf() {
         for (CobblerCodes x : Shops.each()) {
+            Row row = new Row(x);
             int known = 0;
             for (int last = 0; last < 32; last++) {
-                Check.due("told(" + last + ", 4)", x.told(last, 4), Shops.placeOf(x, last));
-                known += x.told(last, 4) >= 0 ? 1 : 0;
+                Check.due("told(" + last + ", 4)", x.told(last, 4), row.placeOf(last));
+                known += row.knows(last) ? 1 : 0;
             }
             Check.due("count(0)", x.count(0), known);
             Check.due("count(1), two nodes for each last known and the sole's", x.count(1), 2 * known + 1);
@@ -86,7 +86,7 @@ public final class TermsSentencesTest {
     // "the sole always has one."
     private static void theSoleAlwaysHasALeaf() {
         for (CobblerCodes x : Shops.each()) {
-            Check.due("sole(4)", x.sole(4), Shops.placeOf(x, 32));
+            Check.due("sole(4)", x.sole(4), new Row(x).placeOf(32));
             Check.due("sole(4) is a place", x.sole(4) >= 0, true);
         }
     }
@@ -94,37 +94,41 @@ public final class TermsSentencesTest {
     // "Its nodes stand in a row, at places from 0, the root first"
     private static void rootStandsFirst() {
         for (CobblerCodes x : Shops.each()) {
-            for (int place = 0; place < x.count(1); place++) {
-                Check.due("place " + place + " is the root's", x.node(place, 2) == -1, place == 0);
+            Row row = new Row(x);
+            for (int place = 0; place < row.places; place++) {
+                Check.due("place " + place + " is the root's", row.above[place] == -1, place == 0);
             }
-            Check.due("count(2), the weight at the place 0", x.count(2), x.node(0, 0));
+            Check.due("count(2), the weight at the place 0", x.count(2), row.weight[0]);
         }
     }
 
     // "a fork with two parts, which stand side by side, the first one ahead of the second one"
     private static void partsStandSideBySide() {
         for (CobblerCodes x : Shops.each()) {
+            Row row = new Row(x);
             int parts = 0;
-            for (int fork = 0; fork < x.count(1); fork++) {
-                int first = x.node(fork, 3);
+            for (int fork = 0; fork < row.places; fork++) {
+                int first = row.first[fork];
                 if (first >= 0) {
-                    Check.due("above the first part of " + fork, x.node(first, 2), fork);
-                    Check.due("above the second part of " + fork, x.node(first + 1, 2), fork);
+                    Check.due("above the first part of " + fork, row.above[first], fork);
+                    Check.due("above the second part of " + fork, row.above[first + 1], fork);
                     parts += 2;
                 }
             }
-            Check.due("nodes that are a part", parts, x.count(1) - 1);
+            Check.due("nodes that are a part", parts, row.places - 1);
         }
     }
 
     // "Each node has a weight: a leaf its own one .., a fork those of its parts, added."
     private static void weightsAreThoseOfThePartsAdded() {
         for (CobblerCodes x : Shops.each()) {
-            for (int place = 0; place < x.count(1); place++) {
-                int first = x.node(place, 3);
-                int last = x.node(place, 1);
-                int want = first >= 0 ? x.node(first, 0) + x.node(first + 1, 0) : last == 32 ? x.sole(0) : x.told(last, 0);
-                Check.due("node(" + place + ", 0)", x.node(place, 0), want);
+            Row row = new Row(x);
+            for (int place = 0; place < row.places; place++) {
+                int first = row.first[place];
+                int last = row.last[place];
+                int leafs = last == 32 ? x.sole(0) : last >= 0 ? x.told(last, 0) : 0;
+                int want = first >= 0 ? row.weight[first] + row.weight[first + 1] : leafs;
+                Check.due("node(" + place + ", 0)", row.weight[place], want);
             }
         }
     }
@@ -150,17 +154,17 @@ public final class TermsSentencesTest {
     // "The code of a leaf is the way from the root to it: a 0 for each first part, a 1 for each second one that is gone to"
     private static void theCodeIsTheWay() {
         for (CobblerCodes x : Shops.each()) {
+            Row row = new Row(x);
             for (int last = 0; last < 32; last++) {
-                int place = Shops.placeOf(x, last);
-                if (place >= 0) {
-                    String way = Shops.way(x, place);
+                if (row.knows(last)) {
+                    String way = row.codeOf(last);
                     Check.due("told(" + last + ", 1)", x.told(last, 1), way.length());
-                    Check.due("told(" + last + ", 2)", x.told(last, 2), Shops.number(way));
+                    Check.due("told(" + last + ", 2)", x.told(last, 2), Row.number(way));
                 }
             }
-            String way = Shops.way(x, Shops.placeOf(x, 32));
+            String way = row.codeOf(32);
             Check.due("sole(1)", x.sole(1), way.length());
-            Check.due("sole(2)", x.sole(2), Shops.number(way));
+            Check.due("sole(2)", x.sole(2), Row.number(way));
         }
         // 12 leaves one below the other: the deepest way has 11 forks.
         Check.due("sole(1) at the end of a chain", Shops.chain().sole(1), 11);

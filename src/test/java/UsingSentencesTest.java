@@ -43,7 +43,7 @@ public final class UsingSentencesTest {
         for (int last = 0; last < 32; last++) {
             Check.due("told(" + last + ", 4) of a new object", x.told(last, 4), -1);
         }
-        Check.dueThrow(x, "wear() of a new object", Check.STATE, () -> x.wear());
+        Check.dueThrow(CobblerCodes::new, "wear() of a new object", Check.STATE, y -> y.wear());
     }
 
     // "Returns how many bits it takes."
@@ -61,12 +61,12 @@ public final class UsingSentencesTest {
 
     // "Throws `IndexOutOfBoundsException` if last is not 0 to 31"
     private static void p02LastIsNot0To31() {
-        for (CobblerCodes x : Shops.each()) {
+        for (Check.Maker maker : Shops.MAKERS) {
             for (int last : new int[] {-1, 32}) {
-                Check.dueThrow(x, "use(" + last + ")", Check.INDEX, () -> x.use(last));
+                Check.dueThrow(maker, "use(" + last + ")", Check.INDEX, x -> x.use(last));
             }
             for (int last : Shops.FAR) {
-                Check.dueThrow(x, "use(" + last + ")", Check.INDEX, () -> x.use(last));
+                Check.dueThrow(maker, "use(" + last + ")", Check.INDEX, x -> x.use(last));
             }
         }
         for (CobblerCodes x : Shops.each()) {
@@ -109,8 +109,8 @@ public final class UsingSentencesTest {
     }
 
     private static void refusesRow(int from, int step, int many, Class<?> type) {
-        CobblerCodes x = Check.used(8, 9, 9);
-        Check.dueThrow(x, "useAll(" + from + ", " + step + ", " + many + ")", type, () -> x.useAll(from, step, many));
+        Check.dueThrow(() -> Check.used(8, 9, 9), "useAll(" + from + ", " + step + ", " + many + ")", type,
+            x -> x.useAll(from, step, many));
     }
 
     private static void takesRow(int from, int step, int many) {
@@ -180,7 +180,7 @@ public final class UsingSentencesTest {
             Check.due("setLimit(" + limit + ")", x.setLimit(limit), before);
             before = limit;
         }
-        Check.outcome(() -> x.setLimit(401));
+        Check.outcome(x, y -> y.setLimit(401));
         Check.due("setLimit(4) behind a refused one", x.setLimit(4), 399);
     }
 
@@ -189,11 +189,13 @@ public final class UsingSentencesTest {
         for (CobblerCodes x : Shops.each()) {
             x.setLimit(4);
             Check.due("setLimit(400)", x.setLimit(400), 4);
+        }
+        for (Check.Maker maker : Shops.MAKERS) {
             for (int limit : new int[] {3, 401, 0, 1, 2, -1, -4, -400, 404}) {
-                Check.dueThrow(x, "setLimit(" + limit + ")", Check.ARGUMENT, () -> x.setLimit(limit));
+                Check.dueThrow(maker, "setLimit(" + limit + ")", Check.ARGUMENT, x -> x.setLimit(limit));
             }
             for (int limit : new int[] {Integer.MIN_VALUE, Integer.MIN_VALUE + 64, 65536 + 64, Integer.MAX_VALUE}) {
-                Check.dueThrow(x, "setLimit(" + limit + ")", Check.ARGUMENT, () -> x.setLimit(limit));
+                Check.dueThrow(maker, "setLimit(" + limit + ")", Check.ARGUMENT, x -> x.setLimit(limit));
             }
         }
     }
@@ -218,24 +220,25 @@ public final class UsingSentencesTest {
 
     // "Throws `IllegalStateException` if no last is known"
     private static void p05NoLastIsKnown() {
-        CobblerCodes x = Shops.untouched();
-        Check.dueThrow(x, "wear() of a new object", Check.STATE, () -> x.wear());
+        Check.dueThrow(Shops::untouched, "wear() of a new object", Check.STATE, x -> x.wear());
+        Check.dueThrow(Shops::emptied, "wear() with all forgotten", Check.STATE, x -> x.wear());
         CobblerCodes y = Shops.emptied();
-        Check.dueThrow(y, "wear() with all forgotten", Check.STATE, () -> y.wear());
-        Check.dueThrow(y, "wear() once more", Check.STATE, () -> y.wear());
-        y.use(8);
-        Check.due("wear() with one known again", y.wear(), 1);
-        Check.dueThrow(y, "wear() with this one forgotten", Check.STATE, () -> y.wear());
+        for (int k = 0; k < 3; k++) {
+            Check.due("wear() with all forgotten", Check.outcome(y, CobblerCodes::wear), "throws.IllegalStateException");
+            y.use(8);
+            Check.due("wear() with one known again", y.wear(), 1);
+        }
     }
 
     // "-1 for each of these, if it is not known"
     private static void p06UnknownIsMinus1() {
         for (CobblerCodes x : Shops.each()) {
+            Row row = new Row(x);
             for (int last = 0; last < 32; last++) {
-                boolean known = Shops.placeOf(x, last) >= 0;
                 for (int what = 0; what < 5; what++) {
-                    Check.due("told(" + last + ", " + what + ") is -1", x.told(last, what) == -1, !known);
-                    Check.due("told(" + last + ", " + what + ") is -1 at least", x.told(last, what) >= -1, true);
+                    int told = x.told(last, what);
+                    Check.due("told(" + last + ", " + what + ") is -1", told == -1, !row.knows(last));
+                    Check.due("told(" + last + ", " + what + ") is -1 at least", told >= -1, true);
                 }
             }
         }
@@ -271,8 +274,8 @@ public final class UsingSentencesTest {
     }
 
     private static void refusesTold(int last, int what) {
-        for (CobblerCodes x : new CobblerCodes[] {Shops.untouched(), Shops.withOne(), Shops.full()}) {
-            Check.dueThrow(x, "told(" + last + ", " + what + ")", Check.INDEX, () -> x.told(last, what));
+        for (Check.Maker maker : new Check.Maker[] {Shops::untouched, Shops::withOne, Shops::full}) {
+            Check.dueThrow(maker, "told(" + last + ", " + what + ")", Check.INDEX, x -> x.told(last, what));
         }
     }
 
@@ -327,12 +330,12 @@ public final class UsingSentencesTest {
 
     // "Throws `IndexOutOfBoundsException` if what is not 0 to 4": 5, that told() has, is none
     private static void p07WhatIsNot0To4() {
-        for (CobblerCodes x : Shops.each()) {
+        for (Check.Maker maker : Shops.MAKERS) {
             for (int what : new int[] {-1, 5, 6}) {
-                Check.dueThrow(x, "sole(" + what + ")", Check.INDEX, () -> x.sole(what));
+                Check.dueThrow(maker, "sole(" + what + ")", Check.INDEX, x -> x.sole(what));
             }
             for (int what : Shops.FAR) {
-                Check.dueThrow(x, "sole(" + what + ")", Check.INDEX, () -> x.sole(what));
+                Check.dueThrow(maker, "sole(" + what + ")", Check.INDEX, x -> x.sole(what));
             }
         }
     }
@@ -340,9 +343,10 @@ public final class UsingSentencesTest {
     // "1 its last (32 for the sole), -1 for a fork"
     private static void p08LastOfALeafOrMinus1() {
         for (CobblerCodes x : Shops.each()) {
-            for (int place = 0; place < x.count(1); place++) {
-                boolean fork = x.node(place, 3) >= 0;
-                int last = x.node(place, 1);
+            Row row = new Row(x);
+            for (int place = 0; place < row.places; place++) {
+                boolean fork = row.first[place] >= 0;
+                int last = row.last[place];
                 Check.due("node(" + place + ", 1) is -1", last == -1, fork);
                 if (!fork) {
                     Check.due("the place of " + last, last == 32 ? x.sole(4) : x.told(last, 4), place);
@@ -358,9 +362,10 @@ public final class UsingSentencesTest {
         Check.due("node(0, 2) of the sole alone", Shops.untouched().node(0, 2), -1);
         Check.due("node(0, 2) with all forgotten", Shops.emptied().node(0, 2), -1);
         for (CobblerCodes x : Shops.each()) {
-            Check.due("node(0, 2)", x.node(0, 2), -1);
-            for (int place = 1; place < x.count(1); place++) {
-                int first = x.node(x.node(place, 2), 3);
+            Row row = new Row(x);
+            Check.due("node(0, 2)", row.above[0], -1);
+            for (int place = 1; place < row.places; place++) {
+                int first = row.first[row.above[place]];
                 Check.due(place + " is a part of the fork above it", first == place || first + 1 == place, true);
             }
         }
@@ -372,43 +377,44 @@ public final class UsingSentencesTest {
         Check.due("node(0, 3) with all forgotten", Shops.emptied().node(0, 3), -1);
         Check.due("node(0, 3) beside one last", Shops.withOne().node(0, 3), 1);
         for (CobblerCodes x : Shops.each()) {
-            for (int place = 0; place < x.count(1); place++) {
-                boolean leaf = x.node(place, 1) >= 0;
-                Check.due("node(" + place + ", 3) is -1", x.node(place, 3) == -1, leaf);
-                Check.due("node(" + place + ", 3) is behind it", leaf || x.node(place, 3) > place, true);
+            Row row = new Row(x);
+            for (int place = 0; place < row.places; place++) {
+                boolean leaf = row.last[place] >= 0;
+                Check.due("node(" + place + ", 3) is -1", row.first[place] == -1, leaf);
+                Check.due("node(" + place + ", 3) is behind it", leaf || row.first[place] > place, true);
             }
         }
     }
 
     // "Throws `IndexOutOfBoundsException` if there is no such place"
     private static void p08NoSuchPlace() {
-        for (CobblerCodes x : Shops.each()) {
-            int places = x.count(1);
-            Check.due("node() of the last place throws nothing", x.node(places - 1, 0) >= 1, true);
+        for (Check.Maker maker : Shops.MAKERS) {
+            int places = maker.make().count(1);
+            Check.due("node() of the last place throws nothing", maker.make().node(places - 1, 0) >= 1, true);
             for (int place : new int[] {-1, places, places + 1, 65, 66}) {
-                Check.dueThrow(x, "node(" + place + ", 0) of " + places, Check.INDEX, () -> x.node(place, 0));
+                Check.dueThrow(maker, "node(" + place + ", 0) of " + places, Check.INDEX, x -> x.node(place, 0));
             }
             for (int place : Shops.FAR) {
                 if (place < 0 || place >= places) {
-                    Check.dueThrow(x, "node(" + place + ", 3) of " + places, Check.INDEX, () -> x.node(place, 3));
+                    Check.dueThrow(maker, "node(" + place + ", 3) of " + places, Check.INDEX, x -> x.node(place, 3));
                 }
             }
         }
-        CobblerCodes y = Shops.full();
-        Check.due("node(64, 0), the last place of all", y.node(64, 0), 1);
-        y.wear();
-        Check.dueThrow(y, "node(1, 0), a place no more", Check.INDEX, () -> y.node(1, 0));
+        CobblerCodes x = Shops.full();
+        Check.due("node(64, 0), the last place of all", x.node(64, 0), 1);
+        x.wear();
+        Check.due("node(1, 0), a place no more", Check.outcome(x, y -> y.node(1, 0)), "throws.IndexOutOfBoundsException");
     }
 
     // "or what is not 0 to 3"
     private static void p08WhatIsNot0To3() {
-        for (CobblerCodes x : Shops.each()) {
+        for (Check.Maker maker : Shops.MAKERS) {
             for (int what : new int[] {-1, 4, 5}) {
-                Check.dueThrow(x, "node(0, " + what + ")", Check.INDEX, () -> x.node(0, what));
-                Check.dueThrow(x, "node(65, " + what + ")", Check.INDEX, () -> x.node(65, what));
+                Check.dueThrow(maker, "node(0, " + what + ")", Check.INDEX, x -> x.node(0, what));
+                Check.dueThrow(maker, "node(65, " + what + ")", Check.INDEX, x -> x.node(65, what));
             }
             for (int what : Shops.FAR) {
-                Check.dueThrow(x, "node(0, " + what + ")", Check.INDEX, () -> x.node(0, what));
+                Check.dueThrow(maker, "node(0, " + what + ")", Check.INDEX, x -> x.node(0, what));
             }
         }
     }
@@ -441,8 +447,8 @@ public final class UsingSentencesTest {
         Check.due("count(3)", x.count(3), 50 * 41);
         Check.due("count(4)", x.count(4), bits);
         x.wear();
-        Check.outcome(() -> x.use(32));
-        Check.outcome(() -> x.useAll(0, 0, 41));
+        Check.outcome(x, y -> y.use(32));
+        Check.outcome(x, y -> y.useAll(0, 0, 41));
         Check.due("count(3) behind what is no use", x.count(3), 50 * 41);
         Check.due("count(4) behind what is no use", x.count(4), bits);
     }
@@ -459,7 +465,7 @@ public final class UsingSentencesTest {
         Check.due("count(6) of wear() and of a use", x.count(6), 2);
         CobblerCodes y = Shops.emptied();
         Check.due("count(6) with all forgotten", y.count(6), 2);
-        Check.outcome(() -> y.wear());
+        Check.outcome(y, CobblerCodes::wear);
         Check.due("count(6) behind a refused wear()", y.count(6), 2);
         y.would(0, 1, 40);
         y.advise(0, 1, 40);
@@ -480,14 +486,15 @@ public final class UsingSentencesTest {
 
     // "Throws `IndexOutOfBoundsException` if what is not 0 to 7"
     private static void p09WhatIsNot0To7() {
-        for (CobblerCodes x : Shops.each()) {
+        for (Check.Maker maker : Shops.MAKERS) {
             for (int what : new int[] {-1, 8, 9}) {
-                Check.dueThrow(x, "count(" + what + ")", Check.INDEX, () -> x.count(what));
+                Check.dueThrow(maker, "count(" + what + ")", Check.INDEX, x -> x.count(what));
             }
             for (int what : Shops.FAR) {
-                Check.dueThrow(x, "count(" + what + ")", Check.INDEX, () -> x.count(what));
+                Check.dueThrow(maker, "count(" + what + ")", Check.INDEX, x -> x.count(what));
             }
-            Check.due("count(0) and count(7) throw nothing", x.count(0) >= 0 && x.count(7) >= 4, true);
+            Check.due("count(0) throws nothing", maker.make().count(0) >= 0, true);
+            Check.due("count(7) throws nothing", maker.make().count(7) >= 4, true);
         }
     }
 }

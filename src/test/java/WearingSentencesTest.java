@@ -62,7 +62,7 @@ public final class WearingSentencesTest {
         Check.due("use(7), that makes it 4", x.use(7), 7);
         rows("with all forgotten", x, "1:S");
         Check.due("cheapest() with all forgotten", x.cheapest(), -1);
-        Check.dueThrow(x, "wear() with all forgotten", Check.STATE, () -> x.wear());
+        Check.due("wear() with all forgotten", Check.outcome(x, CobblerCodes::wear), "throws.IllegalStateException");
         CobblerCodes y = new CobblerCodes();
         y.setLimit(33);
         y.useAll(0, 1, 31);
@@ -151,23 +151,26 @@ public final class WearingSentencesTest {
         Check.due("count(1) of a worn tree with all 32", Shops.fullAndWorn().count(1), 65);
     }
 
-    private static int lengthOf(CobblerCodes x, int last) {
-        return last == 32 ? x.sole(1) : x.told(last, 1);
-    }
-
-    private static int byLengths(CobblerCodes x, int last) {
-        return last == 32 ? x.sole(3) : x.told(last, 3);
+    /** What is told of each last, and behind them of the sole. */
+    private static int[] ofAll(CobblerCodes x, int what) {
+        int[] all = new int[33];
+        for (int last = 0; last < 32; last++) {
+            all[last] = x.told(last, what);
+        }
+        all[32] = x.sole(what);
+        return all;
     }
 
     // "in the order of these lengths": put to the same length, a shorter code is the lower number
     private static void codesInTheOrderOfLengths() {
         for (CobblerCodes x : Shops.each()) {
+            int[] lengths = ofAll(x, 1);
+            int[] codes = ofAll(x, 3);
             for (int one = 0; one <= 32; one++) {
                 for (int other = 0; other <= 32; other++) {
-                    int more = lengthOf(x, other) - lengthOf(x, one);
-                    if (lengthOf(x, one) >= 0 && more > 0) {
-                        Check.due(one + " begins no code of " + other + " and is ahead",
-                            byLengths(x, one) < byLengths(x, other) >> more, true);
+                    int more = lengths[other] - lengths[one];
+                    if (lengths[one] >= 0 && more > 0) {
+                        Check.due(one + " begins no code of " + other + " and is ahead", codes[one] < codes[other] >> more, true);
                     }
                 }
             }
@@ -218,14 +221,16 @@ public final class WearingSentencesTest {
     }
 
     private static void countsUp(CobblerCodes x) {
+        int[] lengths = ofAll(x, 1);
+        int[] codes = ofAll(x, 3);
         int code = -1;
         int before = 0;
         for (int length = 0; length <= 32; length++) {
             for (int last = 0; last <= 32; last++) {
-                if (lengthOf(x, last) == length) {
+                if (lengths[last] == length) {
                     code = code < 0 ? 0 : code + 1 << length - before;
                     before = length;
-                    Check.due("the code by lengths of " + last, byLengths(x, last), code);
+                    Check.due("the code by lengths of " + last, codes[last], code);
                 }
             }
         }
@@ -233,26 +238,22 @@ public final class WearingSentencesTest {
 
     // "A method that throws an exception changes nothing."
     private static void whatThrowsChangesNothing() {
-        for (CobblerCodes x : Shops.each()) {
-            int would = x.would(7, 3, 40);
-            int advised = x.advise(7, 3, 40);
-            Check.dueThrow(x, "use(32)", Check.INDEX, () -> x.use(32));
-            Check.dueThrow(x, "useAll(0, 1, 41)", Check.ARGUMENT, () -> x.useAll(0, 1, 41));
-            Check.dueThrow(x, "useAll(32, 1, 40)", Check.INDEX, () -> x.useAll(32, 1, 40));
-            Check.dueThrow(x, "setLimit(3)", Check.ARGUMENT, () -> x.setLimit(3));
-            Check.dueThrow(x, "setLimit(401)", Check.ARGUMENT, () -> x.setLimit(401));
-            Check.dueThrow(x, "told(0, 6)", Check.INDEX, () -> x.told(0, 6));
-            Check.dueThrow(x, "sole(5)", Check.INDEX, () -> x.sole(5));
-            Check.dueThrow(x, "node(0, 4)", Check.INDEX, () -> x.node(0, 4));
-            Check.dueThrow(x, "count(8)", Check.INDEX, () -> x.count(8));
-            Check.dueThrow(x, "read(2, 1)", Check.ARGUMENT, () -> x.read(2, 1));
-            Check.dueThrow(x, "would(0, 32, 40)", Check.ARGUMENT, () -> x.would(0, 32, 40));
-            Check.dueThrow(x, "advise(0, 1, 0)", Check.ARGUMENT, () -> x.advise(0, 1, 0));
-            if (x.count(0) == 0) {
-                Check.dueThrow(x, "wear()", Check.STATE, () -> x.wear());
+        for (Check.Maker maker : Shops.MAKERS) {
+            Check.dueThrow(maker, "use(32)", Check.INDEX, x -> x.use(32));
+            Check.dueThrow(maker, "useAll(0, 1, 41)", Check.ARGUMENT, x -> x.useAll(0, 1, 41));
+            Check.dueThrow(maker, "useAll(32, 1, 40)", Check.INDEX, x -> x.useAll(32, 1, 40));
+            Check.dueThrow(maker, "setLimit(3)", Check.ARGUMENT, x -> x.setLimit(3));
+            Check.dueThrow(maker, "setLimit(401)", Check.ARGUMENT, x -> x.setLimit(401));
+            Check.dueThrow(maker, "told(0, 6)", Check.INDEX, x -> x.told(0, 6));
+            Check.dueThrow(maker, "sole(5)", Check.INDEX, x -> x.sole(5));
+            Check.dueThrow(maker, "node(0, 4)", Check.INDEX, x -> x.node(0, 4));
+            Check.dueThrow(maker, "count(8)", Check.INDEX, x -> x.count(8));
+            Check.dueThrow(maker, "read(2, 1)", Check.ARGUMENT, x -> x.read(2, 1));
+            Check.dueThrow(maker, "would(0, 32, 40)", Check.ARGUMENT, x -> x.would(0, 32, 40));
+            Check.dueThrow(maker, "advise(0, 1, 0)", Check.ARGUMENT, x -> x.advise(0, 1, 0));
+            if (maker.make().count(0) == 0) {
+                Check.dueThrow(maker, "wear()", Check.STATE, x -> x.wear());
             }
-            Check.due("would() behind what threw", x.would(7, 3, 40), would);
-            Check.due("advise() behind what threw", x.advise(7, 3, 40), advised);
         }
     }
 
@@ -261,7 +262,7 @@ public final class WearingSentencesTest {
         int[] from = {Integer.MIN_VALUE, -1, 0, 31, 32, Integer.MAX_VALUE};
         int[] step = {Integer.MIN_VALUE, -1, 0, 31, 32, Integer.MAX_VALUE};
         int[] many = {Integer.MIN_VALUE, 0, 1, 40, 41, Integer.MAX_VALUE};
-        CobblerCodes x = Check.used(6, 6, 2);
+        Check.Maker maker = () -> Check.used(6, 6, 2);
         for (int f : from) {
             for (int s : step) {
                 for (int m : many) {
@@ -269,9 +270,9 @@ public final class WearingSentencesTest {
                     if (index || s < 0 || s > 31 || m < 1 || m > 40) {
                         Class<?> first = index ? Check.INDEX : Check.ARGUMENT;
                         String row = "(" + f + ", " + s + ", " + m + ")";
-                        Check.dueThrow(x, "useAll" + row, first, () -> x.useAll(f, s, m));
-                        Check.dueThrow(x, "would" + row, first, () -> x.would(f, s, m));
-                        Check.dueThrow(x, "advise" + row, first, () -> x.advise(f, s, m));
+                        Check.dueThrow(maker, "useAll" + row, first, x -> x.useAll(f, s, m));
+                        Check.dueThrow(maker, "would" + row, first, x -> x.would(f, s, m));
+                        Check.dueThrow(maker, "advise" + row, first, x -> x.advise(f, s, m));
                     }
                 }
             }
