@@ -5,7 +5,12 @@ import java.lang.reflect.Method;
 import java.lang.reflect.Modifier;
 import java.nio.file.Files;
 import java.nio.file.Path;
+import java.util.Arrays;
+import java.util.Map;
+import java.util.TreeMap;
 import java.util.TreeSet;
+import java.util.regex.Matcher;
+import java.util.regex.Pattern;
 
 /** The face is the document's, and the source keeps clear of what LANGUAGE.md rules out (what words can show of it). */
 public final class LanguageTest {
@@ -33,6 +38,11 @@ public final class LanguageTest {
         "instanceof", "abstract", "volatile", "native", "strictfp", "import static", "Exact(", "List", "Object ", "System.out",
         "Random", "Thread", "hashCode", "equals(", "toString", "static {"};
 
+    // A method, or a constructor: its head, its name, and its body up to the brace below its first sign.
+    private static final Pattern METHOD = Pattern.compile(
+        "^( +)(?:public|private) (?:static )?(?:\\w+(?:\\[\\])? )?(\\w+)\\([^)]*\\)[^{;]*\\{(.*?)^\\1\\}",
+        Pattern.DOTALL | Pattern.MULTILINE);
+
     public static void main(String[] args) throws IOException {
         TreeSet<String> face = new TreeSet<>();
         TreeSet<String> names = new TreeSet<>();
@@ -58,8 +68,43 @@ public final class LanguageTest {
         }
         Check.due("the imports", source.lines().filter(line -> line.startsWith("import")).toList().toString(),
             "[import java.util.Arrays;]");
+        Check.due("at most 12 classes", CobblerCodes.class.getDeclaredClasses().length < 12, true);
+        methods(source);
         Check.due("the source is of plain signs", source.chars().allMatch(sign -> sign > 0 && sign < 128), true);
         Check.end();
+    }
+
+    /** Methods are short, and no chain of calls comes back to where it was or goes more than eight deep. */
+    private static void methods(String source) {
+        Map<String, String> bodies = new TreeMap<>();
+        Matcher m = METHOD.matcher(source);
+        while (m.find()) {
+            Check.due(m.group(2) + " has at most 60 lines", m.group().lines().count() <= 60, true);
+            Check.due("another method is named " + m.group(2), bodies.put(m.group(2), m.group(3)) != null, false);
+        }
+        int made = members(CobblerCodes.class);
+        for (Class<?> inside : CobblerCodes.class.getDeclaredClasses()) {
+            made += members(inside);
+        }
+        Check.due("methods and constructors seen in the source", bodies.size(), made);
+        for (String name : bodies.keySet()) {
+            Check.due("calls below " + name + " are at most eight deep", depth(name, bodies, 1) <= 8, true);
+        }
+        Check.due("advise, takeRow, takeOne, wearDown, takeLightest, putNode, put", depth("advise", bodies, 1), 7);
+    }
+
+    private static int members(Class<?> type) {
+        return type.getDeclaredMethods().length + type.getDeclaredConstructors().length;
+    }
+
+    private static int depth(String name, Map<String, String> bodies, int above) {
+        int deepest = above;
+        for (String other : bodies.keySet()) {
+            if (above <= 8 && Pattern.compile("\\b" + other + "\\(").matcher(bodies.get(name)).find()) {
+                deepest = Math.max(deepest, depth(other, bodies, above + 1));
+            }
+        }
+        return deepest;
     }
 
     private static void insides(Class<?> type, TreeSet<String> facesNames) {
@@ -68,11 +113,16 @@ public final class LanguageTest {
             Check.due(field + ", if static, is final",
                 Modifier.isFinal(field.getModifiers()) || !Modifier.isStatic(field.getModifiers()), true);
         }
+        Check.due(type + " has at most 20 fields", fieldsOf(type) <= 20, true);
         for (Method method : type.getDeclaredMethods()) {
             if (Modifier.isPrivate(method.getModifiers())) {
                 Check.due(method + " bears a name of the face", facesNames.contains(method.getName()), false);
             }
             Check.due(method + " has at most seven parameters", method.getParameterCount() <= 7, true);
         }
+    }
+
+    private static long fieldsOf(Class<?> type) {
+        return Arrays.stream(type.getDeclaredFields()).filter(field -> !Modifier.isStatic(field.getModifiers())).count();
     }
 }
